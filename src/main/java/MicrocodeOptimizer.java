@@ -35,13 +35,11 @@ public final class MicrocodeOptimizer {
     /** find() tells instructions from operations by this. */
     private static final int INSTRUCTION_BASE = 100;
 
-    private final byte[] input = new byte[MAX_INPUT];
-    private int inputLength = 0;
+    private final Input input = new Input();
+    private final Output output = new Output();
     private Source source = new Source();
     /** load() reads into this one, so that an error leaves the present source alone. */
     private Source spare = new Source();
-    private final Reader reader = new Reader(input);
-    private final Writer writer = new Writer();
     private final History history = new History();
     private final Packer packer = new Packer();
     private final Words words = new Words();
@@ -56,39 +54,32 @@ public final class MicrocodeOptimizer {
     // ---- texts
 
     public int append(int a, int b, int c, int d, int e) {
-        if (inputLength + 20 > MAX_INPUT) {
+        if (input.size + 20 > MAX_INPUT) {
             return NONE;
         }
-        putInput(a);
-        putInput(b);
-        putInput(c);
-        putInput(d);
-        putInput(e);
-        return inputLength;
-    }
-
-    private void putInput(int four) {
-        for (int shift = 24; shift >= 0; shift -= 8) {
-            input[inputLength] = (byte) (four >>> shift);
-            inputLength++;
-        }
+        input.put(a);
+        input.put(b);
+        input.put(c);
+        input.put(d);
+        input.put(e);
+        return input.size;
     }
 
     public boolean truncate(int length) {
-        if (length < 0 || length > inputLength) {
+        if (length < 0 || length > input.size) {
             return false;
         }
-        inputLength = length;
+        input.size = length;
         return true;
     }
 
     public int bufferLength() {
-        return inputLength;
+        return input.size;
     }
 
     public int load() {
-        int error = reader.read(inputLength, spare);
-        inputLength = 0;
+        int error = input.read(spare);
+        input.size = 0;
         if (error != 0) {
             return -error;
         }
@@ -101,8 +92,8 @@ public final class MicrocodeOptimizer {
     }
 
     public int find() {
-        long name = inputName();
-        inputLength = 0;
+        long name = input.wholeName();
+        input.size = 0;
         int operation = source.operationNamed(name);
         if (operation != NONE) {
             return operation;
@@ -111,31 +102,16 @@ public final class MicrocodeOptimizer {
         return instruction == NONE ? NONE : INSTRUCTION_BASE + instruction;
     }
 
-    /** The input buffer as a name; 0, which no name is, if it has other characters or too many. */
-    private long inputName() {
-        if (inputLength > MAX_NAME) {
-            return 0;
-        }
-        long name = 0;
-        for (int i = 0; i < inputLength; i++) {
-            if (!Reader.isLetter(input[i]) && !Reader.isDigit(input[i])) {
-                return 0;
-            }
-            name = name << 8 | input[i];
-        }
-        return name;
-    }
-
     public int write() {
-        writer.putSource(source);
-        return writer.size;
+        output.putSource(source);
+        return output.size;
     }
 
     public int outputByte(int index) throws NoSuchElementException {
-        if (index < 0 || index >= writer.size) {
+        if (index < 0 || index >= output.size) {
             throw new NoSuchElementException("no such byte of the output");
         }
-        return writer.bytes[index];
+        return output.bytes[index];
     }
 
     // ---- source
@@ -514,8 +490,8 @@ public final class MicrocodeOptimizer {
         }
     }
 
-    /** Reads a text into a source, token by token. */
-    static final class Reader {
+    /** The input buffer, which is read into a source, token by token, or as a name. */
+    static final class Input {
         /** Kinds of tokens; a token of a single byte is that byte, and all of these are above 32. */
         private static final int END = 0;
         private static final int INVALID = 1;
@@ -540,30 +516,52 @@ public final class MicrocodeOptimizer {
 
         private static final String SINGLES = "=;:,!+-*&|^";
 
-        private final byte[] text;
-        private int length = 0;
+        int size = 0;
+        private final byte[] text = new byte[MAX_INPUT];
+        /** The first byte behind the token. */
         private int at = 0;
         private int token = END;
         private int offset = 0;
+        /** What the latest word, and the latest number or register, was. */
         private long name = 0;
         private int number = 0;
         private int error = 0;
 
-        Reader(byte[] text) {
-            this.text = text;
+        /** Appends four bytes, as far as there is room for them. */
+        void put(int four) {
+            for (int shift = 24; shift >= 0; shift -= 8) {
+                if (size < MAX_INPUT) {
+                    text[size] = (byte) (four >>> shift);
+                    size++;
+                }
+            }
         }
 
-        static boolean isLetter(int c) {
+        /** The whole buffer as a name; 0, which no name is, if it has other characters or too many. */
+        long wholeName() {
+            if (size > MAX_NAME) {
+                return 0;
+            }
+            long whole = 0;
+            for (int i = 0; i < size; i++) {
+                if (!isLetter(text[i]) && !isDigit(text[i])) {
+                    return 0;
+                }
+                whole = whole << 8 | text[i];
+            }
+            return whole;
+        }
+
+        private static boolean isLetter(int c) {
             return c >= 'a' && c <= 'z';
         }
 
-        static boolean isDigit(int c) {
+        private static boolean isDigit(int c) {
             return c >= '0' && c <= '9';
         }
 
         /** Answers 0, or 8 * offset + kind of the first error; the source is then half filled. */
-        int read(int textLength, Source into) {
-            length = textLength;
+        int read(Source into) {
             at = 0;
             error = 0;
             into.operations = 0;
@@ -727,11 +725,11 @@ public final class MicrocodeOptimizer {
         }
 
         private void advance() {
-            while (at < length && (text[at] == ' ' || text[at] == '\n')) {
+            while (at < size && (text[at] == ' ' || text[at] == '\n')) {
                 at++;
             }
             offset = at;
-            if (at >= length) {
+            if (at >= size) {
                 token = END;
             } else if (isLetter(text[at])) {
                 takeWord();
@@ -745,7 +743,7 @@ public final class MicrocodeOptimizer {
 
         private void takeWord() {
             name = 0;
-            while (at < length && (isLetter(text[at]) || isDigit(text[at]))) {
+            while (at < size && (isLetter(text[at]) || isDigit(text[at]))) {
                 name = name << 8 | text[at];
                 at++;
             }
@@ -761,7 +759,7 @@ public final class MicrocodeOptimizer {
 
         private void takeNumber() {
             number = 0;
-            while (at < length && isDigit(text[at])) {
+            while (at < size && isDigit(text[at])) {
                 number = 10 * number + text[at] - '0';
                 at++;
             }
@@ -770,7 +768,7 @@ public final class MicrocodeOptimizer {
     }
 
     /** The output: writes a source as a text. */
-    static final class Writer {
+    static final class Output {
         private static final int OPERATION_BYTES = 32;
         private static final int INSTRUCTION_BYTES = 15 + 9 * MAX_LENGTH;
 
@@ -1176,9 +1174,13 @@ public final class MicrocodeOptimizer {
     static final class Fields {
         /** The bits of a field with so many operations. */
         private static final int[] BITS = {0, 1, 2, 2, 3, 3, 3, 3, 4, 4, 4, 4, 4};
+        /** The fewest bits of two fields or more with so many operations together. */
+        private static final int[] PARTED_BITS = {0, 0, 2, 3, 3, 4, 4, 4, 4, 5, 5, 5, 5};
         /** A cost is this times the bits plus the number of fields, which is never so great. */
         private static final int BIT_COST = 16;
         private static final int NO_COST = 1 << 20;
+        /** A call of the search for every field and one for every operation. */
+        private static final int MAX_DEPTH = 2 * MAX_OPERATIONS;
 
         /** Fields are searched for only when they are asked for after a new store. */
         boolean isKnown = false;
@@ -1186,10 +1188,12 @@ public final class MicrocodeOptimizer {
         int bits = 0;
         final int[] numbers = new int[MAX_OPERATIONS];
         final int[] codes = new int[MAX_OPERATIONS];
+        /** How many bits of a control are below the code. */
         private final int[] shifts = new int[MAX_OPERATIONS];
         private final int[] together = new int[MAX_OPERATIONS];
-        /** For a set of operations: the least cost of its fields (0 if not known yet), and the first of them. */
+        /** For a set of operations: a cost that is not greater than the least one; 0 if none is known yet. */
         private final int[] costs = new int[1 << MAX_OPERATIONS];
+        /** For a set of operations that has been divided: its first field. */
         private final int[] firstFields = new int[1 << MAX_OPERATIONS];
 
         void know(Store store) {
@@ -1221,9 +1225,9 @@ public final class MicrocodeOptimizer {
             Arrays.fill(codes, 0);
             count = 0;
             bits = 0;
+            search(used);
             int rest = used;
             for (int n = 0; n < MAX_OPERATIONS && rest != 0; n++) {
-                leastCost(rest, 0);
                 int field = firstFields[rest];
                 addField(field);
                 rest &= ~field;
@@ -1237,60 +1241,70 @@ public final class MicrocodeOptimizer {
                     size++;
                     numbers[m] = count;
                     codes[m] = size;
+                    shifts[m] = bits;
                 }
             }
-            shifts[count] = bits;
             bits += BITS[size];
             count++;
         }
 
-        /** Finds the cheapest fields of a set of operations, and notes the first one. */
-        private int leastCost(int set, int depth) {
-            if (set == 0) {
-                return 0;
+        /**
+         * Tries ever greater costs, beginning with one that is surely not too great. Fields are tried from
+         * the least up, so the first ones that are found with the least cost are those that are wanted.
+         */
+        private void search(int used) {
+            boolean isFound = false;
+            for (int n = 0; n < BIT_COST * (MAX_OPERATIONS + 1) && !isFound; n++) {
+                int budget = costAtLeast(used);
+                isFound = costWithin(used, budget, 0) <= budget;
             }
-            if (costs[set] != 0) {
-                return costs[set];
-            }
-            if (depth > MAX_OPERATIONS) {
-                return NO_COST;
-            }
-            int lowest = set & -set;
-            if (isField(set)) {
-                // Every division into more fields has as many bits at least.
-                note(set, set, costOf(set));
-            } else {
-                costs[set] = NO_COST;
-                int open = set & ~lowest & ~together[Integer.bitCount(lowest - 1)];
-                growField(set, lowest, open, depth);
-            }
-            return costs[set];
         }
 
         /**
-         * Tries all fields that the open operations, one of a time from the highest down, extend:
-         * greater fields first, so that the last one of the cheapest is the least.
+         * Looks for fields of a set whose cost is within a budget, and answers their cost; if there are none,
+         * a cost above the budget that is not greater than the least one.
          */
-        private void growField(int set, int field, int open, int depth) {
-            for (int m = MAX_OPERATIONS - 1; m >= 0; m--) {
-                int bit = 1 << m;
-                if ((open & bit) != 0) {
-                    growField(set, field | bit, open & (bit - 1) & ~together[m], depth + 1);
-                }
+        private int costWithin(int set, int budget, int depth) {
+            int known = costAtLeast(set);
+            if (known > budget || set == 0) {
+                return known;
             }
-            int own = costOf(field);
-            int rest = set & ~field;
-            if (own + costAtLeast(rest) <= costs[set]) {
-                int cost = own + leastCost(rest, depth + 1);
-                if (cost <= costs[set]) {
-                    note(set, field, cost);
-                }
+            if (depth > MAX_DEPTH) {
+                return NO_COST;
             }
+            if (isField(set)) {
+                firstFields[set] = set;
+                return known;
+            }
+            int lowest = set & -set;
+            int open = set & ~lowest & ~together[Integer.bitCount(lowest - 1)];
+            costs[set] = growField(set, lowest, open, budget, depth + 1);
+            return costs[set];
         }
 
-        private void note(int set, int field, int cost) {
-            costs[set] = cost;
-            firstFields[set] = field;
+        /** The same for those first fields that consist of a field and of any open operations. */
+        private int growField(int set, int field, int open, int budget, int depth) {
+            int own = costOf(field);
+            int least = own + costAtLeast(set & ~(field | open));
+            if (least > budget) {
+                return least;
+            }
+            if (depth > MAX_DEPTH) {
+                return NO_COST;
+            }
+            least = own + costWithin(set & ~field, budget - own, depth + 1);
+            if (least <= budget) {
+                firstFields[set] = field;
+                return least;
+            }
+            for (int m = 0; m < MAX_OPERATIONS && least > budget; m++) {
+                int bit = 1 << m;
+                if ((open & bit) != 0) {
+                    int openBelow = open & (bit - 1) & ~together[m];
+                    least = Math.min(least, growField(set, field | bit, openBelow, budget, depth + 1));
+                }
+            }
+            return least;
         }
 
         private boolean isField(int set) {
@@ -1307,14 +1321,17 @@ public final class MicrocodeOptimizer {
         }
 
         private int costAtLeast(int set) {
-            return costs[set] != 0 || set == 0 ? costs[set] : costOf(set);
+            if (costs[set] == 0 && set != 0) {
+                costs[set] = isField(set) ? costOf(set) : BIT_COST * PARTED_BITS[Integer.bitCount(set)] + 2;
+            }
+            return costs[set];
         }
 
         long encode(int set, boolean isSafe) {
             long control = isSafe ? 1L << bits : 0;
             for (int m = 0; m < MAX_OPERATIONS; m++) {
                 if ((set & 1 << m) != 0) {
-                    control |= (long) codes[m] << shifts[numbers[m]];
+                    control |= (long) codes[m] << shifts[m];
                 }
             }
             return control;

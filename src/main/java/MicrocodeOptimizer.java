@@ -196,7 +196,8 @@ public final class MicrocodeOptimizer {
             throw new IllegalArgumentException("no such mode");
         }
         history.remember(NONE, this.mode);
-        changeMode(mode);
+        this.mode = mode;
+        packAll();
         return store.size;
     }
 
@@ -228,16 +229,12 @@ public final class MicrocodeOptimizer {
         int former = history.formers[last];
         history.size = last;
         if (position == NONE) {
-            changeMode(former);
+            mode = former;
+            packAll();
         } else {
             changeMark(position, former == 1);
         }
         return history.size;
-    }
-
-    private void changeMode(int newMode) {
-        mode = newMode;
-        packAll();
     }
 
     private void changeMark(int position, boolean isThere) {
@@ -393,7 +390,8 @@ public final class MicrocodeOptimizer {
         if (processor.address == NONE) {
             throw new IllegalStateException("the processor is idle");
         }
-        return processor.runWords(source, store, Integer.MAX_VALUE);
+        // No instruction has more words, so none of them but the last can be the one that is waited for.
+        return processor.runWords(source, store, MAX_LENGTH);
     }
 
     private void checkIdle() {
@@ -1199,8 +1197,9 @@ public final class MicrocodeOptimizer {
         void know(Store store) {
             if (!isKnown) {
                 isKnown = true;
-                Arrays.fill(costs, 0);
-                divide(collect(store));
+                int used = collect(store);
+                search(used);
+                divide(used);
             }
         }
 
@@ -1220,12 +1219,12 @@ public final class MicrocodeOptimizer {
             return used;
         }
 
+        /** Takes the fields that the search has found. */
         private void divide(int used) {
             Arrays.fill(numbers, NONE);
             Arrays.fill(codes, 0);
             count = 0;
             bits = 0;
-            search(used);
             int rest = used;
             for (int n = 0; n < MAX_OPERATIONS && rest != 0; n++) {
                 int field = firstFields[rest];
@@ -1253,6 +1252,7 @@ public final class MicrocodeOptimizer {
          * the least up, so the first ones that are found with the least cost are those that are wanted.
          */
         private void search(int used) {
+            Arrays.fill(costs, 0);
             boolean isFound = false;
             for (int n = 0; n < BIT_COST * (MAX_OPERATIONS + 1) && !isFound; n++) {
                 int budget = costAtLeast(used);

@@ -61,6 +61,9 @@ public final class ChangesTest {
         CHECK.due("a mark more", x.setMark(0, 0, true), 21);
         // Now x is what y is, so all its words are shared.
         CHECK.due("ten are left", x.setMark(0, 9, false), 11);
+        MicrocodeOptimizer y = Check.loaded(TEXT + "instr x:a,b,c,a,b,c,a,b,c!a!b,c,a;", 0);
+        CHECK.due("nine and one", y.setMark(0, 8, false), 13);
+        CHECK.dueThrow("ten and three", IllegalStateException.class, () -> y.setMark(0, 9, false));
         CHECK.dueThrow("eleven again", IllegalStateException.class, () -> x.setMark(0, 0, false));
     }
 

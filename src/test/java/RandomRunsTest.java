@@ -19,7 +19,7 @@ public final class RandomRunsTest {
     }
 
     public static void main(String[] args) {
-        int runs = args.length > 0 ? Integer.parseInt(args[0]) : 400;
+        int runs = args.length > 0 ? Integer.parseInt(args[0]) : 1000;
         int from = args.length > 1 ? Integer.parseInt(args[1]) : 0;
         int wrongRuns = 0;
         for (int seed = from; seed < from + runs && wrongRuns < 5; seed++) {

@@ -26,10 +26,11 @@ public final class RoomTest {
         long made = THREADS.getCurrentThreadAllocatedBytes();
         Check.put(x, text.toString());
         long put = THREADS.getCurrentThreadAllocatedBytes();
-        sum += useful(x);
+        sum += dearCalls(x);
         long after = THREADS.getCurrentThreadAllocatedBytes();
         CHECK.due("an object takes at most 100,000 bytes: " + (made - before), made - before < 100_000, true);
         CHECK.due("its calls take next to nothing: " + (after - put), after - put < 20_000, true);
+        CHECK.due("the text was loaded", x.instructionCount(), 8);
         CHECK.due("the calls answered something", sum != 0, true);
         CHECK.end();
     }
@@ -37,11 +38,11 @@ public final class RoomTest {
     private static long allCalls(String text) {
         MicrocodeOptimizer x = new MicrocodeOptimizer();
         Check.put(x, text);
-        return useful(x);
+        return dearCalls(x);
     }
 
     /** The dearest calls, some 450 of them. */
-    private static long useful(MicrocodeOptimizer x) {
+    private static long dearCalls(MicrocodeOptimizer x) {
         long sum = x.load();
         for (int i = 0; i < 50; i++) {
             sum += x.setMode(i % 3) + x.fieldBits() + x.setMark(i % 8, i % 9, i % 2 == 0) + x.fieldCount();

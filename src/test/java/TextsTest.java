@@ -53,7 +53,7 @@ public final class TextsTest {
         CHECK.due("append to 1200", x.append(1, 2, 3, 4, 5), 1200);
         CHECK.due("truncate(0)", x.truncate(0), true);
         CHECK.due("length 0", x.bufferLength(), 0);
-        // "opaaaa..": the order of the bytes shows in what a name is found as.
+        // The order of the bytes shows in the name that is found, and in the offset of a wrong byte.
         CHECK.due("load for the order", Check.load(x, "op abcd unit 0 r0=1;"), 0);
         CHECK.due("append abcd", x.append(0x61626364, 0, 0, 0, 0), 20);
         CHECK.due("truncate(4)", x.truncate(4), true);
@@ -191,6 +191,20 @@ public final class TextsTest {
         due(longest + OP_A, 0);
         dueError(longest + OP_A.substring(0, 16) + ",", 1199, 1);
         dueError("op" + " ".repeat(1198), 1200, 1);
+        dueError(longest.substring(1) + "op a unit 0 r0=100", 1200, 1);
+        dueError(" ".repeat(1195) + "op ab", 1200, 1);
+        dueTruncated("op a unit 0 r0=12345", 16, -(8 * 16 + 1));
+        dueTruncated("op a unit 0 r0=1 ;  ", 16, -(8 * 16 + 1));
+        dueTruncated("op abcdefghijklmnopq", 6, -(8 * 6 + 1));
+        dueTruncated("op a unit 0 r0=1;  ?", 19, 0);
+    }
+
+    /** What stands behind the end of the text is no part of it. */
+    private static void dueTruncated(String twenty, int length, int answer) {
+        MicrocodeOptimizer x = new MicrocodeOptimizer();
+        Check.put(x, twenty);
+        CHECK.due("truncate", x.truncate(length), true);
+        CHECK.due("load of " + length + " of " + twenty, x.load(), answer);
     }
 
     private static void failedLoadKeeps() {

@@ -63,6 +63,8 @@ public final class WordsTest {
         due("a weak chain", "op a unit 0 r1=r0;op b unit 1 r0=r2;op c unit 2 r2=1;instr x:a,b,c;", "7", "7", 1);
         due("weak on one that waits", "op z unit 3 r0=7;op a unit 0 r1=r0;op b unit 1 r0=r2;instr x:z,a,b;",
                 "1 6", "1 6", 2);
+        due("weak on two, the first of which waits", "op z unit 2 r5=1;op a unit 0 r1=r0+r5;op b unit 1 r2=r0;"
+                + "op c unit 3 r0=1;instr x:z,a,b,c;", "5 10", "5 10", 2);
         due("weak on one that waits for its unit", "op z unit 0 r5=7;op a unit 0 r1=r0;op b unit 1 r0=r2;instr x:z,a,b;",
                 "1 6", "6 1", 1);
     }

@@ -44,6 +44,15 @@ final class Check {
         }
     }
 
+    /** What load() answers to a text in a new object. */
+    void dueLoad(String text, int answer) {
+        due("load of " + text.replace("\n", "\\n"), load(new MicrocodeOptimizer(), text), answer);
+    }
+
+    void dueError(String text, int offset, int kind) {
+        dueLoad(text, -(8 * offset + kind));
+    }
+
     /** Call this last. */
     void end() {
         System.out.println(checked + " answers, " + wrong + " of them wrong");

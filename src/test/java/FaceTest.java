@@ -9,16 +9,46 @@ import java.util.stream.Collectors;
 
 /** The face of the class: what the document names and nothing else, and LANGUAGE.md's rules about members. */
 public final class FaceTest {
-    private static final String[] FACE = {
-        "int append(int,int,int,int,int)", "boolean truncate(int)", "int bufferLength()", "int load()", "int find()",
-        "int write()", "int outputByte(int)", "int operationCount()", "int instructionCount()",
-        "int operation(int,int)", "int length(int)", "int operationAt(int,int)", "boolean hasMark(int,int)",
-        "int dependence(int,int,int)", "int setMode(int)", "int mode()", "int setMark(int,int,boolean)", "int undo()",
-        "int wordCount(int)", "int word(int,int)", "int chain(int)", "int latency(int)", "int storeSize()",
-        "int entry(int)", "int store(int,int)", "int fieldCount()", "int fieldBits()", "int fieldOf(int)",
-        "int codeOf(int)", "long control(int)", "int setRegister(int,int)", "int register(int)", "int runSource(int)",
-        "int start(int,int)", "int resume()", "int address()", "boolean agrees(int)"
-    };
+    /** As the document has it. */
+    private static final String FACE = """
+            int append(int a, int b, int c, int d, int e)
+            boolean truncate(int length)
+            int bufferLength()
+            int load()
+            int find()
+            int write()
+            int outputByte(int index) throws NoSuchElementException
+            int operationCount()
+            int instructionCount()
+            int operation(int operation, int what) throws IndexOutOfBoundsException, IllegalArgumentException
+            int length(int instruction) throws IndexOutOfBoundsException
+            int operationAt(int instruction, int index) throws IndexOutOfBoundsException
+            boolean hasMark(int instruction, int index) throws IndexOutOfBoundsException
+            int dependence(int instruction, int first, int second) throws IndexOutOfBoundsException
+            int setMode(int mode) throws IllegalArgumentException
+            int mode()
+            int setMark(int instruction, int index, boolean isThere) throws IndexOutOfBoundsException, IllegalStateException
+            int undo()
+            int wordCount(int instruction) throws IndexOutOfBoundsException
+            int word(int instruction, int index) throws IndexOutOfBoundsException
+            int chain(int instruction) throws IndexOutOfBoundsException
+            int latency(int instruction) throws IndexOutOfBoundsException
+            int storeSize()
+            int entry(int instruction) throws IndexOutOfBoundsException
+            int store(int address, int what) throws IndexOutOfBoundsException, IllegalArgumentException
+            int fieldCount()
+            int fieldBits()
+            int fieldOf(int operation) throws IndexOutOfBoundsException
+            int codeOf(int operation) throws IndexOutOfBoundsException
+            long control(int address) throws IndexOutOfBoundsException
+            int setRegister(int register, int value) throws IndexOutOfBoundsException
+            int register(int register) throws IndexOutOfBoundsException
+            int runSource(int instruction) throws IndexOutOfBoundsException, IllegalStateException
+            int start(int instruction, int words) throws IndexOutOfBoundsException, IllegalArgumentException, IllegalStateException
+            int resume() throws IllegalStateException
+            int address()
+            boolean agrees(int instruction) throws IndexOutOfBoundsException
+            """;
     private static final Check CHECK = new Check();
 
     public static void main(String[] args) {
@@ -33,7 +63,7 @@ public final class FaceTest {
                 names.add(m.getName());
             }
         }
-        CHECK.due("the methods", methods.toString(), new TreeSet<>(Arrays.asList(FACE)).toString());
+        CHECK.due("the methods", methods.toString(), faceOfTheDocument().toString());
         Constructor<?>[] constructors = face.getDeclaredConstructors();
         CHECK.due("one constructor", constructors.length, 1);
         CHECK.due("it is public", constructors[0].getModifiers(), Modifier.PUBLIC);
@@ -54,9 +84,21 @@ public final class FaceTest {
         CHECK.end();
     }
 
+    private static Set<String> faceOfTheDocument() {
+        Set<String> lines = new TreeSet<>();
+        for (String line : FACE.split("\n")) {
+            lines.add(line.replaceAll("(int|boolean) \\w+(?=[,)])", "$1"));
+        }
+        return lines;
+    }
+
     private static String signature(Method m) {
-        return m.getReturnType() + " " + m.getName() + Arrays.stream(m.getParameterTypes())
-                .map(Class::getName).collect(Collectors.joining(",", "(", ")"));
+        return m.getReturnType() + " " + m.getName() + joined(m.getParameterTypes(), "(", ")")
+                + (m.getExceptionTypes().length == 0 ? "" : joined(m.getExceptionTypes(), " throws ", ""));
+    }
+
+    private static String joined(Class<?>[] types, String before, String behind) {
+        return Arrays.stream(types).map(Class::getSimpleName).collect(Collectors.joining(", ", before, behind));
     }
 
     private static void privateNames(Class<?> of, Set<String> names) {
@@ -65,6 +107,8 @@ public final class FaceTest {
             CHECK.due("no public name: " + m, !isFace && names.contains(m.getName()), false);
             CHECK.due("at most seven parameters: " + m, m.getParameterCount() <= 7, true);
         }
+        long own = Arrays.stream(of.getDeclaredFields()).filter(f -> !Modifier.isStatic(f.getModifiers())).count();
+        CHECK.due("some twenty fields: " + of, own <= 20, true);
         for (Field f : of.getDeclaredFields()) {
             boolean isStatic = Modifier.isStatic(f.getModifiers());
             CHECK.due("static is final: " + f, !isStatic || Modifier.isFinal(f.getModifiers()), true);

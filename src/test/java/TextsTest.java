@@ -3,7 +3,7 @@ import java.util.NoSuchElementException;
 /** Promises 1 to 8: a new object, the input buffer, load, find, write and the output. */
 public final class TextsTest {
     private static final Check CHECK = new Check();
-    private static final String OP_A = "op a unit 0 r0=1;";
+    private static final String OP_A = Sources.OP_A;
 
     public static void main(String[] args) {
         newObject();
@@ -102,11 +102,11 @@ public final class TextsTest {
     }
 
     private static void due(String text, int answer) {
-        CHECK.due("load of " + text.replace("\n", "\\n"), Check.load(new MicrocodeOptimizer(), text), answer);
+        CHECK.dueLoad(text, answer);
     }
 
     private static void dueError(String text, int offset, int kind) {
-        due(text, -(8 * offset + kind));
+        CHECK.dueError(text, offset, kind);
     }
 
     private static void loadErrors() {
@@ -257,20 +257,6 @@ public final class TextsTest {
         Check.load(x, OP_A);
         CHECK.due("the output stays till the next write", x.outputByte(text.length() - 1), ';');
         CHECK.due("a shorter text", Check.written(x), OP_A);
-        StringBuilder tight = new StringBuilder();
-        for (int i = 0; i < 12; i++) {
-            tight.append("op abcdefg").append((char) ('a' + i)).append(" unit 0r0=1000*2000;");
-        }
-        for (int i = 0; i < 3; i++) {
-            tight.append("instr i").append(i).append(":abcdefga");
-            for (int k = 1; k < 24; k++) {
-                tight.append(k % 10 == 0 ? "!" : ",").append("abcdefg").append((char) ('a' + k % 12));
-            }
-            tight.append(";");
-        }
-        tight.append("instr i3:abcdefga,abcdefga,abcdefga,abcdefga,abcdefga,abcdefga,abcdefga,abcdefga,abcdefga;");
-        CHECK.due("load of a long text", Check.load(x, tight.toString()), 4);
-        CHECK.due("write of a long text", Check.written(x), tight.toString().replace("0r0", "0 r0"));
     }
 
     private static void outputByte() {

@@ -23,6 +23,7 @@ public final class EdgesTest {
         outputUntilTheNextWrite();
         sequenceEnds();
         dependenceEdges();
+        dependenceInTheLast();
         modesKeptAndUndone();
         marksAtBothEnds();
         undoOfSevenEightNine();
@@ -36,6 +37,7 @@ public final class EdgesTest {
         whatDoesNotMakeIdle();
         wordsAndLatencies();
         fieldsOfUnused();
+        fieldsAskedFirst();
         registerValues();
         runSourceAnswers();
         startAfterEachNumber();
@@ -313,6 +315,15 @@ public final class EdgesTest {
         CHECK.due("another segment again", y.dependence(0, 1, 2), 3);
     }
 
+    private static void dependenceInTheLast() {
+        MicrocodeOptimizer x = Check.loaded("op a unit 0 r0=r1;op b unit 1 r1=r2;op c unit 2 r3=r0;"
+                + Sources.singles(7) + "instr i7:a,b,c!c;", 0);
+        CHECK.due("weak", x.dependence(7, 0, 1), 1);
+        CHECK.due("strict", x.dependence(7, 0, 2), 2);
+        CHECK.due("neither", x.dependence(7, 1, 2), 0);
+        CHECK.due("another segment", x.dependence(7, 2, 3), 3);
+    }
+
     // ---- promises 16 to 19 and "Changes"
 
     private static void modesKeptAndUndone() {
@@ -349,6 +360,10 @@ public final class EdgesTest {
         MicrocodeOptimizer y = Check.loaded(THREE + "instr x:a,b;", 1);
         CHECK.due("two operations", y.setMark(0, 0, true), 2);
         CHECK.due("and back", y.setMark(0, 0, false), 1);
+        // The marks of the last instruction bound its segments of 4, 6 and 3.
+        MicrocodeOptimizer z = Check.loaded(OP_A + Sources.singles(7) + "instr i7:a,a,a,a!a,a,a,a,a,a!a,a,a;", 0);
+        CHECK.due("6 and 3 of the last instruction", z.setMark(7, 9, false), 13);
+        CHECK.dueThrow("4 and 9 of it", IllegalStateException.class, () -> z.setMark(7, 3, false));
     }
 
     /** "the latest 8 can be undone" */
@@ -520,6 +535,17 @@ public final class EdgesTest {
             MicrocodeOptimizer x = Check.loaded(Sources.counters(12) + "instr x:" + sequence + ";", 2);
             CHECK.due("latency of " + sequence, x.latency(0), 3);
         }
+        // A latency gets less again.
+        MicrocodeOptimizer z = Check.loaded(THREE + "instr x:a,b,b;", 0);
+        CHECK.due("latency one by one", z.latency(0), 3);
+        z.setMode(1);
+        CHECK.due("latency by list", z.latency(0), 2);
+        z.setMark(0, 1, true);
+        CHECK.due("latency with a mark", z.latency(0), 1);
+        z.undo();
+        CHECK.due("latency without it", z.latency(0), 2);
+        Check.load(z, THREE + "instr x:c;");
+        CHECK.due("latency of another source", z.latency(0), 1);
         // Twelve operations: the set of the last one is bit 11.
         MicrocodeOptimizer y = Check.loaded(Sources.counters(12) + "instr x:l,a;", 0);
         CHECK.due("bit 11", y.word(0, 0), 2048);
@@ -539,6 +565,29 @@ public final class EdgesTest {
         Check.load(x, Sources.counters(12));
         CHECK.due("none used", x.fieldOf(2), -1);
         CHECK.due("none used", x.codeOf(11), 0);
+    }
+
+    /** Whichever call asks first for the fields of a new store gets them. */
+    private static void fieldsAskedFirst() {
+        Twins.Step[] changes = {
+            x -> Check.load(x, "op z unit 0 r0=1;op y unit 1 r1=1;op x unit 1 r2=1;instr v:z,y;instr w:x;"),
+            x -> x.setMode(1), x -> x.setMark(0, 0, false), x -> x.undo()
+        };
+        for (int n = 0; n < changes.length; n++) {
+            for (int first = 0; first < 5; first++) {
+                MicrocodeOptimizer x = Check.loaded(THREE + "instr x:a,b;instr y:c;", 1);
+                x.setMark(0, 0, true);
+                CHECK.due("fields before change " + n, Check.fields(x), "0.1 0.2 0.3");
+                if (n == 1) {
+                    x.setMark(0, 0, false);
+                }
+                changes[n].on(x);
+                long answer = first == 0 ? x.fieldCount() : first == 1 ? x.fieldBits() : first == 2 ? x.fieldOf(2)
+                        : first == 3 ? x.codeOf(2) : x.control(0);
+                long[] due = {2, 3, 1, 2, 1 + 2 + 8};
+                CHECK.due("call " + first + " after change " + n, answer, due[first]);
+            }
+        }
     }
 
     // ---- promises 32 to 38
@@ -657,6 +706,11 @@ public final class EdgesTest {
             int address = x.address();
             CHECK.due("agrees while interrupted", x.agrees(0), true);
             CHECK.due("still interrupted", x.address(), address);
+            MicrocodeOptimizer y = Check.loaded(Sources.fullest(), mode);
+            for (int i = 0; i < 8; i++) {
+                CHECK.due("agrees on 24 words", y.agrees(i), true);
+            }
+            CHECK.due("r0 stays", y.register(0), 0);
         }
     }
 }

@@ -97,6 +97,11 @@ public final class FieldsTest {
     private static void leastFirst() {
         // a,c / b,d and a,d / b,c have as many bits: a,c is the lesser mask.
         CHECK.due("the least first field", Check.fields(pairs(4, "a,b", "c,d")), "0.1 1.1 0.2 1.2");
+        // The first and the last of twelve share a field that is not the last one.
+        MicrocodeOptimizer x = Check.loaded(Sources.counters(1) + "op b unit 1 r1=1;" + Sources.counters(12).substring(40)
+                + "instr x:a,b;instr y:b,l;", 1);
+        CHECK.due("the first and the last", x.fieldOf(0) == 0 && x.fieldOf(11) == 0 && x.fieldOf(1) == 1, true);
+        CHECK.due("their codes", 100 * x.codeOf(0) + 10 * x.codeOf(1) + x.codeOf(11), 112);
         // Two fields of 3 of five: 7 masks are thinkable, a,d,e and a,c,d and so on; the least that is allowed wins.
         CHECK.due("three and two", Check.fields(pairs(5, "a,b", "c,d")), "0.1 1.1 0.2 1.2 1.3");
     }
@@ -122,6 +127,14 @@ public final class FieldsTest {
         CHECK.due("with a mark", Check.fields(x), "0.1 0.2");
         x.undo();
         CHECK.due("undone", Check.fields(x), "0.1 1.1");
+        // Four operations together need more than three of which one is with the others.
+        MicrocodeOptimizer y = pairs(4, "a,b,c,d", "a,b", "b,c", "b,d");
+        CHECK.due("four together", Check.fields(y), "0.1 1.1 2.1 3.1");
+        y.setMark(1, 0, true);
+        y.setMark(1, 1, true);
+        y.setMark(1, 2, true);
+        CHECK.due("b with the others", Check.fields(y), "0.1 1.1 0.2 0.3");
+        CHECK.due("its bits", y.fieldBits(), 3);
         Check.load(x, "op a unit 0 r0=1;instr x:a;");
         CHECK.due("another source", Check.fields(x), "0.1");
         CHECK.due("bits", x.fieldBits(), 1);

@@ -9,6 +9,7 @@ public final class WordsTest {
         greatestFirst();
         weakInOneWord();
         segments();
+        oneSegmentAfterAnother();
         errors();
         CHECK.end();
     }
@@ -61,6 +62,9 @@ public final class WordsTest {
     private static void weakInOneWord() {
         // b may not go before a; they go together or a goes first.
         due("a weak chain", "op a unit 0 r1=r0;op b unit 1 r0=r2;op c unit 2 r2=1;instr x:a,b,c;", "7", "7", 1);
+        // A chain goes through weak dependences too, which take no word of their own.
+        due("strict, weak, strict", "op a unit 0 r1=1;op b unit 1 r2=r1+r3;op c unit 2 r3=5;op d unit 3 r4=r3;"
+                + "instr x:a,b,c,d;", "1 6 8", "1 6 8", 3);
         due("weak on one that waits", "op z unit 3 r0=7;op a unit 0 r1=r0;op b unit 1 r0=r2;instr x:z,a,b;",
                 "1 6", "1 6", 2);
         due("weak on two, the first of which waits", "op z unit 2 r5=1;op a unit 0 r1=r0+r5;op b unit 1 r2=r0;"
@@ -85,6 +89,16 @@ public final class WordsTest {
         CHECK.due("the longest", y.wordCount(0), 24);
         CHECK.due("its chain", y.chain(0), 24);
         CHECK.due("its latency", y.latency(0), 10);
+    }
+
+    /** Nothing of a segment is left when the next one is packed. */
+    private static void oneSegmentAfterAnother() {
+        // q depends weakly on p; u, at the same position of the second segment, does not depend on t, which waits.
+        due("weak in the first segment only", "op s unit 0 r0=1;op t unit 0 r1=1;op u unit 1 r2=1;op p unit 2 r3=r4;"
+                + "op q unit 3 r4=1;instr x:s,p,q!s,t,u;", "25 5 2", "25 6 1", 2);
+        // Two words are too few for the first segment, but not for the second.
+        due("too few in the first segment only", "op p unit 0 r0=1;op q unit 0 r1=1;op r unit 1 r2=r0+r1;"
+                + "instr x:p,q,r!p,q;", "1 2 4 1 2", "2 1 4 2 1", 3);
     }
 
     private static void errors() {

@@ -22,6 +22,7 @@ public final class GrammarTest {
         everyPrefix();
         everyTokenMissing();
         everyTokenTwice();
+        everyTokenInvalid();
         emptyTexts();
         operationsBeforeInstructions();
         leastOffset();
@@ -248,6 +249,23 @@ public final class GrammarTest {
                 }
             }
             CHECK.dueError(text.toString(), offset, 1);
+        }
+    }
+
+    /** "1: an invalid token (a longer run of digits, a byte that begins no token)", in the place of each token. */
+    private static void everyTokenInvalid() {
+        for (String invalid : new String[] {"abcdefghi", "12345", "?", "A", "\0", "\u00e9", "/", "_"}) {
+            for (int t = 0; t <= TOKENS.length; t++) {
+                StringBuilder text = new StringBuilder();
+                int offset = 0;
+                for (int n = 0; n < TOKENS.length; n++) {
+                    offset = n == t ? text.length() : offset;
+                    text.append(n == t ? invalid : TOKENS[n]).append(' ');
+                }
+                offset = t == TOKENS.length ? text.length() : offset;
+                CHECK.dueError(text + (t == TOKENS.length ? invalid : ""), offset, 1);
+            }
+            CHECK.dueError(invalid, 0, 1);
         }
     }
 

@@ -45,8 +45,9 @@ public final class RandomRunsTest {
                 .sorted((a, b) -> a.getName().compareTo(b.getName())).toArray(Method[]::new);
     }
 
+    /** An object is for 512 calls, and a text takes up to 63 of them. */
     private void go() {
-        while (calls.size() < 500 && wrong == null) {
+        while (calls.size() < 449 && wrong == null) {
             int what = random.nextInt(100);
             if (what < 4 || calls.isEmpty()) {
                 putText(sourceText());
@@ -99,9 +100,9 @@ public final class RandomRunsTest {
             return odd[random.nextInt(odd.length)];
         }
         int within = switch (what) {
-            case "instruction" -> program.instructionCount();
-            case "operation" -> program.operationCount();
-            case "address" -> program.storeSize();
+            case "instruction" -> model.instructionCount();
+            case "operation" -> model.operationCount();
+            case "address" -> model.storeSize();
             case "index" -> random.nextBoolean() ? 8 : 24;
             case "what" -> 5;
             case "words" -> random.nextInt(26);

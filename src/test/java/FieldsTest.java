@@ -7,6 +7,7 @@ public final class FieldsTest {
         together();
         fewestBits();
         fewestFields();
+        onePair();
         leastFirst();
         controls();
         afterChanges();
@@ -92,6 +93,21 @@ public final class FieldsTest {
         MicrocodeOptimizer y = pairs(3, "a,c", "b,c");
         CHECK.due("a and b share", Check.fields(y), "0.1 0.2 1.1");
         CHECK.due("fields", y.fieldCount(), 2);
+    }
+
+    /** b and c are together, so that a shares its field with one of them or there are three fields. */
+    private static void onePair() {
+        String[] fields = {"", "", "", "0.1 0.2 1.1", "0.1 0.2 1.1 0.3", "0.1 0.2 1.1 1.2 1.3", "0.1 0.2 1.1 0.3 1.2 1.3",
+            "0.1 0.2 1.1 0.3 0.4 0.5 0.6", "0.1 0.2 1.1 0.3 0.4 0.5 0.6 0.7", "0.1 0.2 1.1 1.2 1.3 1.4 1.5 1.6 1.7",
+            "0.1 0.2 1.1 0.3 1.2 1.3 1.4 1.5 1.6 1.7", "0.1 0.2 1.1 0.3 0.4 0.5 0.6 0.7 0.8 0.9 0.10",
+            "0.1 0.2 1.1 0.3 0.4 0.5 0.6 0.7 0.8 0.9 0.10 0.11"};
+        int[] bits = {0, 0, 0, 2 + 1, 2 + 1, 2 + 2, 2 + 2, 3 + 1, 3 + 1, 2 + 3, 2 + 3, 4 + 1, 4 + 1};
+        for (int n = 3; n <= 12; n++) {
+            MicrocodeOptimizer x = pairs(n, "b,c");
+            CHECK.due("fields of " + n + " with a pair", Check.fields(x), fields[n]);
+            CHECK.due("bits of " + n + " with a pair", x.fieldBits(), bits[n]);
+            CHECK.due("number of fields of " + n + " with a pair", x.fieldCount(), 2);
+        }
     }
 
     private static void leastFirst() {

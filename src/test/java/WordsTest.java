@@ -9,6 +9,7 @@ public final class WordsTest {
         greatestFirst();
         weakInOneWord();
         segments();
+        moreThanChainAndUnits();
         oneSegmentAfterAnother();
         errors();
         CHECK.end();
@@ -89,6 +90,17 @@ public final class WordsTest {
         CHECK.due("the longest", y.wordCount(0), 24);
         CHECK.due("its chain", y.chain(0), 24);
         CHECK.due("its latency", y.latency(0), 10);
+    }
+
+    /** The fewest words can be more than the longest chain has and more than a unit has operations. */
+    private static void moreThanChainAndUnits() {
+        due("one more", "op p unit 0 r0=1;op q unit 0 r1=1;op s unit 1 r2=r0+r1;instr x:p,q,s;", "1 2 4", "2 1 4", 2);
+        // Only behind z it shows that p and q, which s waits for, need a word each.
+        due("one more behind another word", "op z unit 2 r0=1;op p unit 0 r1=r0;op q unit 0 r2=r0;op s unit 1 r3=r1+r2;"
+                + "instr x:z,p,q,s;", "1 2 4 8", "1 4 2 8", 3);
+        // Four words are too few behind b, a as well as behind a, b.
+        due("two more", "op a unit 0 r0=1;op b unit 0 r1=1;op p unit 1 r2=r0+r1;op q unit 1 r3=r0+r1;"
+                + "op s unit 2 r4=r2+r3;instr x:a,b,p,q,s;", "1 2 4 8 16", "2 1 8 4 16", 3);
     }
 
     /** Nothing of a segment is left when the next one is packed. */
